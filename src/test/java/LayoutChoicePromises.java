@@ -460,27 +460,21 @@ public final class LayoutChoicePromises {
 
     private static void refusedChangesNothing() {
         LayoutChoice x = three();
-        String before = answers(x);
         int[] refused = {T, -1, T, 41, INDENT, -1, INDENT, 21, BESIDE, 0, BELOW, 0, EITHER, 0, 5, 0, -1, 0};
         for (int i = 0; i < refused.length; i += 2) {
             due("promise 9, token " + refused[i] + " " + refused[i + 1], x.token(refused[i], refused[i + 1]), -1);
-            dueText("promise 9, after it", answers(x), before);
         }
-        x.lines(7, 1);
-        x.width(-1, 1);
-        x.cost(1, 1, 1);
-        x.best(1);
-        x.last(1, 1, 1);
-        dueText("promise 9, after questions that are refused", answers(x), before);
-    }
-
-    private static String answers(LayoutChoice x) {
-        StringBuilder all = new StringBuilder();
-        for (int i = -1; i < 30; i++) {
-            all.append(x.lines(0, i)).append(' ').append(x.width(0, i)).append(' ');
-            all.append(x.cost(0, i, 10)).append(' ').append(x.last(0, i, 14)).append(' ');
-        }
-        return all.append(x.best(0)).append(' ').append(x.best(1)).toString();
+        due("promise 9, lines", x.lines(7, 1), -1);
+        due("promise 9, width", x.width(-1, 1), -1);
+        due("promise 9, cost", x.cost(1, 1, 1), -1);
+        due("promise 9, best", x.best(1), -1);
+        due("promise 9, last", x.last(1, 1, 1), -1);
+        due("promise 9, best after them", x.best(0), 3);
+        due("promise 9, lines after them", x.lines(0, 13), 2);
+        due("promise 9, width after them", x.width(0, 1), 14);
+        due("promise 9, cost after them", x.cost(0, 40, 13), 41);
+        due("promise 9, last after them", x.last(0, 1, 14), 9);
+        due("promise 9, documents after them", x.token(T, 1), 2);
     }
 
     private static void objectsApart() {
