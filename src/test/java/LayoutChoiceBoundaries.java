@@ -20,6 +20,7 @@ public final class LayoutChoiceBoundaries {
         test("Terms: line ends, width and last of 0 or more", LayoutChoiceBoundaries::boxOfZeros);
         test("Terms: at most 10 documents", LayoutChoiceBoundaries::tenDocuments);
         test("Terms: a full stack takes what needs no room", LayoutChoiceBoundaries::fullStackGoesOn);
+        test("Terms: a full stack with a choice in it", LayoutChoiceBoundaries::fullStackOfChoice);
         test("Terms: at most 48 tokens in all", LayoutChoiceBoundaries::token48And49);
         test("Terms: tokens count though their documents are gone", LayoutChoiceBoundaries::tokensOfSpentDocuments);
         test("Terms: TEXT n from 0 to 40", LayoutChoiceBoundaries::textRange);
@@ -32,6 +33,7 @@ public final class LayoutChoiceBoundaries {
         test("Terms: BELOW, the greater of w and v", LayoutChoiceBoundaries::belowGreater);
         test("Terms: BELOW, line ends h + i + 1", LayoutChoiceBoundaries::belowLineEnds);
         test("Terms: EITHER, the boxes of both", LayoutChoiceBoundaries::eitherOfBoth);
+        test("Terms: EITHER, boxes that are nearly the same", LayoutChoiceBoundaries::eitherOfNearlySame);
         test("Terms: at most 6 EITHER tokens", LayoutChoiceBoundaries::either6And7);
         test("Terms: EITHER tokens count though their documents are gone", LayoutChoiceBoundaries::eithersApart);
         test("Terms: the set with the most boxes", LayoutChoiceBoundaries::mostBoxes);
@@ -270,6 +272,20 @@ public final class LayoutChoiceBoundaries {
         x.isBox(1, 0, 8, 8);
     }
 
+    private static void fullStackOfChoice() {
+        // The ninth document has two boxes, and the tenth is put beside both, or below both.
+        for (int[] widths : new int[][] {{12, 9}, {9, 12}}) {
+            for (int code : new int[] {BESIDE, BELOW}) {
+                Page x = new Page(TEXT, 1, TEXT, 2, TEXT, 3, TEXT, 4, TEXT, 5, TEXT, 6, TEXT, 7, TEXT, 8);
+                x.take(TEXT, widths[0], TEXT, widths[1], EITHER, 0);
+                x.token(TEXT, 5, 10);
+                x.token(code, 0, 9);
+                x.isBox(0, code == BESIDE ? 0 : 1, code == BESIDE ? 14 : 9, code == BESIDE ? 14 : 5);
+                x.isBox(1, 0, 8, 8);
+            }
+        }
+    }
+
     private static void token48And49() {
         // Each code once as the last token that is taken, and each once as the first that is not.
         int[] left = {3, 1, 1, 2, 1};
@@ -439,6 +455,31 @@ public final class LayoutChoiceBoundaries {
         x = new Page(TEXT, 6, TEXT, 6);
         x.token(EITHER, 0, 1);
         x.isBox(0, 0, 6, 6);
+    }
+
+    private static void eitherOfNearlySame() {
+        // The boxes differ by 1 in last alone, in width alone, in line ends alone; neither may stand for the other.
+        for (int order = 0; order < 2; order++) {
+            Page x = either(order, new int[] {9, 4}, new int[] {9, 5});
+            x.last(0, 1, 9, 4);
+            x = either(order, new int[] {9, 4}, new int[] {8, 4});
+            x.width(0, 1, 8);
+            x = either(order, new int[] {9, 4}, new int[] {9, 9, 4});
+            x.lines(0, 9, 1);
+        }
+    }
+
+    /** The choice of two boxes, each made by BELOW from the widths given, in this order or in the other. */
+    private static Page either(int order, int[] one, int[] other) {
+        Page x = new Page();
+        for (int[] widths : order == 0 ? new int[][] {one, other} : new int[][] {other, one}) {
+            x.take(TEXT, widths[0]);
+            for (int i = 1; i < widths.length; i++) {
+                x.take(TEXT, widths[i], BELOW, 0);
+            }
+        }
+        x.take(EITHER, 0);
+        return x;
     }
 
     private static void either6And7() {
@@ -899,18 +940,9 @@ public final class LayoutChoiceBoundaries {
         x.isBox(0, 2, 9, 2);
     }
 
-    /** Two boxes of one line end or more, made by BELOW from the widths given. */
-    private static void bestOfTwo(int[] first, int[] second, int want) {
+    private static void bestOfTwo(int[] one, int[] other, int want) {
         for (int order = 0; order < 2; order++) {
-            Page x = new Page();
-            for (int[] widths : order == 0 ? new int[][] {first, second} : new int[][] {second, first}) {
-                x.take(TEXT, widths[0]);
-                for (int i = 1; i < widths.length; i++) {
-                    x.take(TEXT, widths[i], BELOW, 0);
-                }
-            }
-            x.take(EITHER, 0);
-            x.best(0, want);
+            either(order, one, other).best(0, want);
         }
     }
 
